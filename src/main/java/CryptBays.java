@@ -529,11 +529,15 @@ public final class CryptBays {
         }
     }
 
-    /** Nobody gets less used by a day, so a way that has come to the least so far need not be told to its end. */
+    /** A way that can't stay below the least so far need not be told to its end: some number not below it is enough. */
     private int usedIfDealt(int holder, int n, int least) {
         foreseen.become(now);
         foreseen.seatAll(deal.bay);
-        for (int d = 0; d < n && foreseen.used[holder] < least; d++) {
+        for (int left = n; left > 0; left--) {
+            int atLeast = foreseen.usedAtLeast(holder, left);
+            if (atLeast >= least) {
+                return atLeast;
+            }
             foreseen.passDay();
         }
         return foreseen.used[holder];
@@ -554,12 +558,16 @@ public final class CryptBays {
         }
     }
 
-    /** Who pays no more never pays again, so a way that can't come above the most so far need not be told to its end. */
+    /** A way that can't come above the most so far need not be told to its end: some number not above it is enough. */
     private int duesIfDealt(int n, int most) {
         foreseen.become(now);
         foreseen.seatAll(deal.bay);
         foreseen.dues = 0;
-        for (int d = 0; d < n && foreseen.dues + (n - d) * foreseen.duesOfDay() > most; d++) {
+        for (int left = n; left > 0; left--) {
+            int atMost = foreseen.dues + foreseen.duesAtMost(left);
+            if (atMost <= most) {
+                return atMost;
+            }
             foreseen.passDay();
         }
         return foreseen.dues;
@@ -742,16 +750,15 @@ public final class CryptBays {
             return (left == NOBODY ? 0 : 1 << left) | (right == NOBODY ? 0 : 1 << right);
         }
 
-        int takenBeside(int b) {
-            int left = whoIn(b - 1);
-            int right = whoIn(b + 1);
-            return (left != NOBODY && hasTaken(left) ? 1 : 0) + (right != NOBODY && hasTaken(right) ? 1 : 0);
+        /** How many (1 or 0) in a bay have taken it up; a bay beyond the row has nobody. */
+        int takenIn(int b) {
+            int h = whoIn(b);
+            return h != NOBODY && hasTaken(h) ? 1 : 0;
         }
 
-        int notTakenBeside(int b) {
-            int left = whoIn(b - 1);
-            int right = whoIn(b + 1);
-            return (left != NOBODY && !hasTaken(left) ? 1 : 0) + (right != NOBODY && !hasTaken(right) ? 1 : 0);
+        int notTakenIn(int b) {
+            int h = whoIn(b);
+            return h != NOBODY && !hasTaken(h) ? 1 : 0;
         }
 
         int gainOf(int h) {
@@ -762,19 +769,23 @@ public final class CryptBays {
                 return plain;
             }
             if (kindOf == SHY || kindOf == SOLICITOR) {
-                int shy = Math.max(0, plain - notTakenBeside(b));
+                int shy = Math.max(0, plain - notTakenIn(b - 1) - notTakenIn(b + 1));
                 return kindOf == SHY ? shy : Math.min(4, shy);
             }
             int miss = b == 0 || b == BAYS - 1 ? plain + 3 : plain;
-            return kindOf == YOUNG ? miss + 2 * takenBeside(b) : miss;
+            return kindOf == YOUNG ? miss + 2 * (takenIn(b - 1) + takenIn(b + 1)) : miss;
         }
 
         void passDay() {
             // All gains first: a day goes by how all is ahead of it.
             for (int h = 0; h < count; h++) {
-                gain[h] = hasTaken(h) ? 0 : gainOf(h);
+                if (hasTaken(h)) {
+                    gain[h] = 0;
+                } else {
+                    gain[h] = gainOf(h);
+                    dues += due[bay[h]];
+                }
             }
-            dues += duesOfDay();
             for (int h = 0; h < count; h++) {
                 used[h] = Math.min(TAKEN_UP, used[h] + gain[h]);
             }
@@ -787,11 +798,19 @@ public final class CryptBays {
             }
         }
 
-        int duesOfDay() {
+        // While days pass, others beside one only take it up: nobody's gain falls. So the gain of now bounds what comes.
+
+        int usedAtLeast(int h, int n) {
+            return hasTaken(h) ? TAKEN_UP : Math.min(TAKEN_UP, used[h] + n * gainOf(h));
+        }
+
+        int duesAtMost(int n) {
             int sum = 0;
             for (int h = 0; h < count; h++) {
                 if (!hasTaken(h)) {
-                    sum += due[bay[h]];
+                    int gainOfNow = gainOf(h);
+                    int days = gainOfNow > 0 ? (TAKEN_UP - used[h] + gainOfNow - 1) / gainOfNow : n;
+                    sum += due[bay[h]] * Math.min(n, days);
                 }
             }
             return sum;

@@ -3,6 +3,7 @@ import java.util.Random;
 /** Runs of many calls, drawn by fixed seeds, whose answers must be those of the model. */
 public final class ModelTest {
     private static final int RUNS = 1500;
+    private static final int DEALT_RUNS = 600;
     private static final int CALLS = 512;
     private static final int[] ODD = {Integer.MIN_VALUE, Integer.MAX_VALUE, -2, -1, 0, 1, 6, 25, 41, 100, 1000};
 
@@ -15,8 +16,12 @@ public final class ModelTest {
     public static void main(String[] args) {
         ModelTest test = new ModelTest();
         int runs = args.length > 0 ? Integer.parseInt(args[0]) : RUNS;
+        int dealtRuns = args.length > 1 ? Integer.parseInt(args[1]) : DEALT_RUNS;
         for (int run = 0; run < runs && !test.check.anyWrong(); run++) {
             test.run(run);
+        }
+        for (int run = 0; run < dealtRuns && !test.check.anyWrong(); run++) {
+            test.dealtRun(run);
         }
         test.check.done();
     }
@@ -34,6 +39,26 @@ public final class ModelTest {
             step();
         }
         all();
+    }
+
+    /** Ways of seating with uneven lamps and dues, where holders take it up on the way. */
+    private void dealtRun(int run) {
+        check.part("dealt run " + run);
+        random = new Random(77L * run + 3);
+        x = new CryptBays();
+        m = new Model();
+        calls = 0;
+        text(goodText());
+        for (int b = 0; b < 6; b++) {
+            int v = random.nextInt(100);
+            due("rule", x.rule(b, 1, v), m.rule(b, 1, v), b, 1, v);
+        }
+        int n = 1 + random.nextInt(random.nextBoolean() ? 10 : 40);
+        int h = random.nextInt(6);
+        for (int k = -1; k < 6; k += 1 + random.nextInt(4)) {
+            due("latest", x.latest(h, n, k), m.latest(h, n, k), h, n, k);
+            due("earn", x.earn(n, k), m.earn(n, k), n, k);
+        }
     }
 
     private void due(String name, long got, long want, long... args) {
@@ -99,7 +124,7 @@ public final class ModelTest {
 
     private String badText() {
         StringBuilder text = new StringBuilder(goodText());
-        String signs = "0123456789;,@>psmly xP";
+        String signs = "0123456789;,@>psmly xP:/";
         int faults = 1 + random.nextInt(2);
         for (int f = 0; f < faults; f++) {
             int place = random.nextInt(text.length());
