@@ -524,6 +524,15 @@ public final class PromiseTest {
         x.talk(0);
         due("a new one", x.undo(), 0);
         due("used", x.of(0, 1), 14);
+        CryptBays moved = crypt("333333;p10@3");
+        for (int b = 0; b < 6; b++) {
+            if (b != 3) {
+                due("moved", moved.move(0, b), 3);
+                due("undo", moved.undo(), 0);
+                due("free again", moved.at(b, 2), NONE);
+                due("held again", moved.at(3, 2), 0);
+            }
+        }
     }
 
     private void seed() {
