@@ -572,6 +572,9 @@ public final class BaysEdgeTest extends Edges {
         faultAt(9, "333333;p1>0");
         faultAt(10, "333333;p1@");
         faultAt(10, "333333;p1@6");
+        faultAt(10, "333333;p1@>0");
+        faultAt(10, "333333;p1@6>0");
+        faultAt(15, "333333;p1@0,p1@0>1");
         faultAt(10, "333333;p1@/");
         faultAt(10, "333333;p1@@0");
         faultAt(11, "333333;p1@00");

@@ -230,6 +230,16 @@ public final class ForetoldEdgeTest extends Edges {
         due("one alone", crypt("333333;p0@0>4").content(0), 4);
     }
 
+    void promise20_twoHoldNoBayTogether() {
+        CryptBays last = crypt("333333;p0@0>5,p0@1>5");
+        due("both like the last bay", last.content(-1), 1);
+        due("4", last.content(0), 4);
+        due("5", last.content(1), 5);
+        CryptBays first = crypt("333333;p0@3>0,p0@4>0,p0@5>0");
+        due("three like the first bay", first.content(-1), 3);
+        due("2", first.content(2), 2);
+    }
+
     void promise20_nothingIsChanged() {
         asks("content", -1);
         asks("content", 0);
@@ -403,6 +413,14 @@ public final class ForetoldEdgeTest extends Edges {
         due("used", day9999().latest(0, 5, -1), 85);
     }
 
+    void promise22_twoHoldNoBayTogether() {
+        // Young, it has 2 more a day by the other one wherever it sits: 12 in bay 0, 9 in bay 1, never 7.
+        CryptBays x = crypt("333333;y0@0,p99@1");
+        due("used", x.latest(0, 1, -1), 9);
+        due("its bay", x.latest(0, 1, 0), 1);
+        due("the other's", x.latest(0, 1, 1), 0);
+    }
+
     void promise22_nothingIsChanged() {
         asks("latest", 0, 40, -1);
         asks("latest", 2, 7, 0);
@@ -496,6 +514,15 @@ public final class ForetoldEdgeTest extends Edges {
 
     void promise23_hasNoLastDay() {
         due("dues", day9999().earn(5, -1), 100);
+    }
+
+    void promise23_twoHoldNoBayTogether() {
+        CryptBays x = crypt("333333;p0@0,p0@5");
+        x.rule(0, 1, 10);
+        x.rule(5, 1, 99);
+        due("one pays 10, one 99", x.earn(1, -1), 109);
+        due("rising", x.earn(1, 0), 0);
+        due("rising", x.earn(1, 1), 5);
     }
 
     void promise23_nothingIsChanged() {
