@@ -8,7 +8,8 @@ import java.util.TreeSet;
 
 /** The public face: every constant, constructor and method of the document, and no other member that is not private. */
 public final class FaceTest {
-    private static final String[] METHODS = {
+    /** In the order of the document. */
+    static final String[] METHODS = {
         "holder(int,int,int)", "rule(int,int,int)", "of(int,int)", "at(int,int)", "type(int)", "crypt()", "count(int)",
         "days(int)", "change(int,int)", "move(int,int)", "talk(int)", "drift(int)", "undo()", "seed(int)",
         "ahead(int,int)", "then(int,int)", "takes(int)", "cough(int)", "content(int)", "swaps(int)",

@@ -6,7 +6,7 @@ import java.util.TreeSet;
 import java.util.regex.Matcher;
 import java.util.regex.Pattern;
 
-/** What can be seen of ../shared/LANGUAGE.md in the text of the class itself; .ci/run tells where it is. */
+/** What can be seen of ../shared/LANGUAGE.md in the text of the class itself; it is run in the project's folder. */
 public final class LanguageTest {
     private static final int LONGEST_METHOD = 60;
     private static final int MOST_PARAMETERS = 7;
@@ -18,9 +18,7 @@ public final class LanguageTest {
     private static final Check CHECK = new Check();
 
     public static void main(String[] args) throws Exception {
-        String told = System.getenv("CRYPT_BAYS_SOURCE");
-        Path path = Path.of(told == null ? "src/main/java/CryptBays.java" : told);
-        String text = Files.readString(path);
+        String text = Files.readString(Path.of("src/main/java/CryptBays.java"));
         signs(text);
         String code = bare(text);
         words(code);
