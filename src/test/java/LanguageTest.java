@@ -1,19 +1,28 @@
 import java.nio.file.Files;
 import java.nio.file.Path;
+import java.util.Arrays;
 import java.util.List;
+import java.util.Map;
 import java.util.Set;
+import java.util.TreeMap;
 import java.util.TreeSet;
 import java.util.regex.Matcher;
 import java.util.regex.Pattern;
+import java.util.stream.Collectors;
 
 /** What can be seen of ../shared/LANGUAGE.md in the text of the class itself; it is run in the project's folder. */
 public final class LanguageTest {
     private static final int LONGEST_METHOD = 60;
     private static final int MOST_PARAMETERS = 7;
+    private static final int MOST_CALLS_DEEP = 8;
+    private static final Pattern NESTED = Pattern.compile("^ {4}static final class (\\w+) \\{$");
+    private static final Pattern HEAD = Pattern.compile("^( {4}| {8})(?=\\S)[\\w\\[\\] ]*\\b(\\w+)\\(([^()]*)\\) \\{$");
+    private static final Pattern CALL = Pattern.compile("(\\.?)(?<!new )\\b(?!(?:if|for|while|switch|return)\\b)(\\w+)\\(");
     private static final List<String> RULED_OUT = List.of(
         "import", "package", "try", "catch", "throw", "throws", "finally", "synchronized", "assert", "protected", "volatile",
         "native", "transient", "Thread", "Random", "Exception", "Object", "toString", "hashCode", "getClass", "float", "double");
     private static final Set<String> LIBRARY = Set.of("System.arraycopy", "Math.max", "Math.min", "Math.abs");
+    private static final Set<String> CALLED_OF_THE_LIBRARY = Set.of(".arraycopy", ".max", ".min", ".abs", ".indexOf");
 
     private static final Check CHECK = new Check();
 
@@ -79,9 +88,13 @@ public final class LanguageTest {
     /** A method begins with a line that ends with ') {' at a member's depth and ends with the brace of the same depth. */
     private static void methods(String code) {
         CHECK.part("methods");
+        Map<String, String> bodies = new TreeMap<>();
+        String inside = "";
         String[] lines = code.split("\n");
         for (int i = 0; i < lines.length; i++) {
-            Matcher head = Pattern.compile("^( {4}| {8})(?=\\S)[\\w\\[\\] ]*\\b\\w+\\(([^()]*)\\) \\{$").matcher(lines[i]);
+            Matcher opens = NESTED.matcher(lines[i]);
+            inside = opens.matches() ? opens.group(1) : inside;
+            Matcher head = HEAD.matcher(lines[i]);
             if (!head.matches() || lines[i].trim().matches("(if|for|while|switch).*")) {
                 continue;
             }
@@ -90,7 +103,51 @@ public final class LanguageTest {
                 end++;
             }
             CHECK.due(lines[i].trim() + " is short", end - i < LONGEST_METHOD ? 1 : 0, 1);
-            CHECK.due(lines[i].trim() + " has few parameters", head.group(2).split(",").length <= MOST_PARAMETERS ? 1 : 0, 1);
+            CHECK.due(lines[i].trim() + " has few parameters", head.group(3).split(",").length <= MOST_PARAMETERS ? 1 : 0, 1);
+            String name = (head.group(1).length() == 4 ? "CryptBays" : inside) + "." + head.group(2);
+            String body = String.join("\n", Arrays.asList(lines).subList(i + 1, Math.min(end, lines.length)));
+            CHECK.due(name + " is there once", bodies.put(name, body) == null ? 1 : 0, 1);
         }
+        CHECK.due("methods are found", bodies.size() > FaceTest.METHODS.length ? 1 : 0, 1);
+        calls(bodies);
+    }
+
+    private static void calls(Map<String, String> bodies) {
+        for (String method : bodies.keySet()) {
+            CHECK.due(method + " goes few calls deep", deepest(method, bodies, 1) <= MOST_CALLS_DEEP ? 1 : 0, 1);
+            for (String called : called(method, bodies)) {
+                boolean fine = bodies.containsKey(called) || CALLED_OF_THE_LIBRARY.contains(called);
+                CHECK.due(method + " may call " + called, fine ? 1 : 0, 1);
+            }
+        }
+    }
+
+    /** How many calls stand open at most; a method that comes back to itself is seen by going too deep. */
+    private static int deepest(String method, Map<String, String> bodies, int depth) {
+        int most = depth;
+        if (depth <= MOST_CALLS_DEEP) {
+            for (String called : called(method, bodies)) {
+                most = bodies.containsKey(called) ? Math.max(most, deepest(called, bodies, depth + 1)) : most;
+            }
+        }
+        return most;
+    }
+
+    /** A call with a dot is of another class (of any that has such a method), one without is of its own. */
+    private static Set<String> called(String method, Map<String, String> bodies) {
+        String own = method.substring(0, method.indexOf('.') + 1);
+        Set<String> all = new TreeSet<>();
+        Matcher call = CALL.matcher(bodies.get(method));
+        while (call.find()) {
+            String name = "." + call.group(2);
+            if (call.group(1).isEmpty()) {
+                all.add(own + call.group(2));
+                continue;
+            }
+            List<String> others = bodies.keySet().stream()
+                .filter(other -> other.endsWith(name) && !other.startsWith(own)).collect(Collectors.toList());
+            all.addAll(others.isEmpty() ? List.of(name) : others);
+        }
+        return all;
     }
 }
